@@ -150,11 +150,7 @@ public final class StripDies {
         if (punchCount >= MOST_PUNCHES) {
             return FULL;
         }
-        Punch made = new Punch(kind, s, form);
-        made.x = x;
-        made.y = y;
-        made.thick = thick;
-        punches[punchCount] = made;
+        punches[punchCount] = new Punch(kind, s, form, x, y, thick);
         plan.isFresh = false;
         return punchCount++;
     }
@@ -223,7 +219,8 @@ public final class StripDies {
     }
 
     public long force(int station, int what) {
-        if (!isStation(station) || !isWithin(what, 0, 3)) {
+        refreshPlan();
+        if (!plan.hasStation(station) || !isWithin(what, 0, 3)) {
             return LOST;
         }
         long sum = 0;
@@ -237,7 +234,8 @@ public final class StripDies {
     }
 
     public int peak(int station, int s) {
-        if (!isStation(station)) {
+        refreshPlan();
+        if (!plan.hasStation(station)) {
             return UNKNOWN;
         }
         if (!isWithin(s, 1, MOST_STEPS)) {
@@ -410,11 +408,6 @@ public final class StripDies {
 
     private Sheet sheetAt(int k) {
         return isWithin(k, 0, MOST_SHEETS - 1) ? sheets[k] : null;
-    }
-
-    private boolean isStation(int station) {
-        refreshPlan();
-        return isWithin(station, 0, plan.count - 1);
     }
 
     private int faulted(int which) {
@@ -798,14 +791,16 @@ public final class StripDies {
     }
 
     private static final class Punch {
-        final int kind, formNumber;
+        final int kind, formNumber, x, y, thick;
         final Shape form;
-        int x, y, thick;
 
-        Punch(int kind, int formNumber, Shape form) {
+        Punch(int kind, int formNumber, Shape form, int x, int y, int thick) {
             this.kind = kind;
             this.formNumber = formNumber;
             this.form = form;
+            this.x = x;
+            this.y = y;
+            this.thick = thick;
         }
 
         int strength() {
@@ -874,6 +869,10 @@ public final class StripDies {
         private long[] next = new long[SETS];
         private long row;
         private int punches;
+
+        boolean hasStation(int station) {
+            return isWithin(station, 0, count - 1);
+        }
 
         int stationOf(int p) {
             return (int) (row >>> DIGIT * (punches - 1 - p)) & 15;
