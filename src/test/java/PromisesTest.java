@@ -128,6 +128,8 @@ public final class PromisesTest {
         due("the last cell counts", x.about(2, 2), 8);
         due("the first one alone", x.shape(2, 2, 0), 3);
         dueRows("cells behind i + 7 do not count", x, 3, 255, 64);
+        dueRows("shifted by 7 both ways", x, shapeOf(x, 0, 0, 0, 0, 0, 0, 0, 128), 1);
+        dueRows("shifted by 5", x, shapeOf(x, 0, 0xA0, 0x40), 5, 2);
     }
 
     private static void shapeRefusals() {
@@ -173,6 +175,7 @@ public final class PromisesTest {
             dueRows("turn " + t, x, t + 1, turns[t]);
         }
         dueRows("the first stays", x, s, 7, 1);
+        turnOfOthers();
         due("UNKNOWN comes first", x.turn(9, 8), UNKNOWN);
         due("below 0", x.turn(-1, 0), UNKNOWN);
         due("turn below 0", x.turn(0, -1), OUTSIDE);
@@ -183,6 +186,15 @@ public final class PromisesTest {
         due("the twelfth", x.turn(0, 0), 11);
         due("OUTSIDE comes ahead of FULL", x.turn(0, 8), OUTSIDE);
         due("full", x.turn(0, 0), FULL);
+    }
+
+    private static void turnOfOthers() {
+        StripDies x = new StripDies();
+        int corner = shapeOf(x, 1, 0, 0, 0, 0, 0, 0, 3), steps = shapeOf(x, 1, 2, 4);
+        dueRows("eight high, turned", x, x.turn(corner, 1), 0x81, 1);
+        dueRows("eight high, turned back", x, x.turn(corner, 3), 0x80, 0x81);
+        dueRows("eight high, turned over and once", x, x.turn(corner, 5), 1, 0x81);
+        dueRows("steps turned over", x, x.turn(steps, 4), 4, 2, 1);
     }
 
     private static void dueAbout(StripDies x, int s, int... all) {
@@ -206,6 +218,12 @@ public final class PromisesTest {
         due("what above 4", x.about(0, 5), OUTSIDE);
         due("UNKNOWN comes first", x.about(8, 5), UNKNOWN);
         due("below 0", x.about(-1, 0), UNKNOWN);
+        for (int s = 8; s < 12; s++) {
+            x.turn(0, 0);
+        }
+        for (int s : new int[] {12, 13, LEAST, MOST}) {
+            due("none beyond the twelfth", x.about(s, 0), UNKNOWN);
+        }
     }
 
     private static void has() {
@@ -288,6 +306,8 @@ public final class PromisesTest {
         duePair("two hooks, one turned over", x, new int[] {hook, hook, 4, 0, -2}, 3, 4, 12, 4);
         duePair("b is the one that is turned", x, new int[] {cell, two, 1, 1, 0}, 2, 2, 4, 1);
         duePair("a is not", x, new int[] {two, cell, 1, 2, 0}, 3, 1, 3, 0);
+        duePair("the pitch of b counts", x, new int[] {cell, two, 0, 0, 3}, 2, 4, 8, 5);
+        duePair("the pitch of a counts", x, new int[] {two, cell, 0, 0, 3}, 2, 4, 8, 5);
         duePair("b behind the next a", x, new int[] {two, cell, 0, 5, 0}, 3, 1, 3, 0);
         x.rule(0, 1);
         x.rule(1, 2);
@@ -328,6 +348,9 @@ public final class PromisesTest {
         dueBest("cells: the first of many by dx, then dy", x, cell, cell, 0, 0, -1, 2);
         dueBest("hooks make a block", x, hook, hook, 2, 1, 0, 8);
         dueBest("a block and itself", x, block, block, 0, 0, -8, 128);
+        int three = shapeOf(x, 7);
+        dueBest("a cell and three", x, cell, three, 0, 1, 0, 4);
+        dueBest("three and a cell", x, three, cell, 0, 3, 0, 4);
         x.rule(1, 1);
         dueBest("cells with a margin", x, cell, cell, 0, 0, -1, 4);
         x.rule(1, 0);
@@ -336,11 +359,23 @@ public final class PromisesTest {
         x.rule(0, 3);
         x.rule(1, 3);
         dueBest("blocks with all, none below one another", x, block, block, 0, 11, 0, 308);
+        bestOfColumns();
         due("what below 0", x.best(0, 0, -1), OUTSIDE);
         due("what above 3", x.best(0, 0, 4), OUTSIDE);
-        due("no a, UNKNOWN comes first", x.best(3, 0, 4), UNKNOWN);
-        due("no b", x.best(0, 3, 0), UNKNOWN);
+        due("no a, UNKNOWN comes first", x.best(4, 0, 4), UNKNOWN);
+        due("no b", x.best(0, 4, 0), UNKNOWN);
         due("below 0", x.best(-1, 0, 0), UNKNOWN);
+    }
+
+    private static void bestOfColumns() {
+        StripDies x = new StripDies();
+        int seven = shapeOf(x, 1, 1, 1, 1, 1, 1, 1), eight = shapeOf(x, 1, 1, 1, 1, 1, 1, 1, 1);
+        dueBest("columns", x, seven, eight, 0, 0, -8, 15);
+        x.rule(0, 1);
+        dueBest("a web: only over it there is room", x, seven, eight, 0, 0, 8, 32);
+        dueBest("a web: only under it there is room", x, eight, seven, 0, 0, -8, 32);
+        x.rule(1, 3);
+        dueBest("no room over it, though it would spend 46", x, eight, eight, 0, 2, 0, 56);
     }
 
     private static void punch() {
@@ -411,6 +446,17 @@ public final class PromisesTest {
         due("the chain is cut", x.must(9, 0), 0);
         due("ahead of the cut", x.must(9, 5), 1);
         due("behind the cut", x.must(4, 0), 1);
+        StripDies up = cellsAt(0, 10, 20, 30, 40, 50, 1, 11, 21, 31);
+        for (int p = 0; p < 9; p++) {
+            up.ahead(p, p + 1);
+        }
+        due("upward", up.must(0, 9), 1);
+        due("upward, not back", up.must(9, 0), 0);
+        StripDies through = cellsAt(0, 10, 20);
+        through.ahead(1, 0);
+        through.ahead(0, 2);
+        due("through the first", through.must(1, 2), 1);
+        due("two laws", through.told(2), 2);
         due("no a", x.must(10, 0), UNKNOWN);
         due("no b", x.must(0, -1), UNKNOWN);
     }
@@ -435,6 +481,24 @@ public final class PromisesTest {
         due("or behind", x.together(5, 0), 0);
         due("no a", x.together(6, 0), UNKNOWN);
         due("no b", x.together(0, -1), UNKNOWN);
+        togetherInPlaces();
+    }
+
+    private static void togetherInPlaces() {
+        StripDies tower = new StripDies();
+        int cell = shapeOf(tower, 1);
+        for (int y : new int[] {0, 4, 5, 20}) {
+            tower.punch(0, cell, 0, y, 1);
+        }
+        tower.rule(2, 4);
+        due("too near over it", tower.together(0, 1), 0);
+        due("too near under it", tower.together(1, 0), 0);
+        due("far enough over it", tower.together(0, 2), 1);
+        due("far enough under it", tower.together(2, 0), 1);
+        due("far off over it", tower.together(0, 3), 1);
+        due("far off under it", tower.together(3, 0), 1);
+        tower.rule(2, 3);
+        due("no more too near", tower.together(1, 0), 1);
         StripDies y = new StripDies();
         int hook = shapeOf(y, 7, 1), block = shapeOf(y, 255, 255, 255, 255, 255, 255, 255, 255);
         y.punch(0, hook, 3, 4, 1);
@@ -461,6 +525,14 @@ public final class PromisesTest {
         due("two do, though the first fit would take three", path.stations(), 2);
         StripDies heap = cellsAt(5, 5, 5, 5, 5, 5, 5, 5, 5, 5);
         due("ten in one place", heap.stations(), 10);
+        StripDies later = cellsAt(0, 3);
+        due("at first", later.stations(), 1);
+        later.rule(2, 3);
+        due("with a wall", later.stations(), 2);
+        later.punch(0, 0, 1, 0, 1);
+        due("with one more", later.stations(), 3);
+        later.rule(2, 1);
+        due("with a lesser wall", later.stations(), 2);
         StripDies chain = cellsAt(0, 10, 20, 30);
         chain.ahead(0, 1);
         chain.ahead(2, 3);
@@ -537,6 +609,14 @@ public final class PromisesTest {
         due("four steps", x.peak(0, 4), 16);
         x.punch(2, cell, 50, 0, 19);
         due("one that is above all", x.peak(0, 3), 38);
+        StripDies y = new StripDies();
+        int hook = shapeOf(y, 7, 1);
+        int[] parts = {8, 7, 6, 5, 4};
+        for (int p = 0; p < parts.length; p++) {
+            y.punch(2, hook, 10 * p, 0, parts[p]);
+        }
+        due("two even halves", y.peak(0, 2), 75);
+        due("three steps of bends", y.peak(0, 3), 55);
         x.ahead(5, 0);
         due("alone in its station", x.peak(0, 4), 38);
         due("as many steps as it can use", x.peak(1, 4), 8);
@@ -559,6 +639,10 @@ public final class PromisesTest {
         due("what above 5", x.punched(0, 6), OUTSIDE);
         due("UNKNOWN comes first", x.punched(4, 6), UNKNOWN);
         due("below 0", x.punched(-1, 0), UNKNOWN);
+        StripDies all10 = cellsAt(0, 1, 2, 3, 4, 5, 6, 7, 8, 9);
+        for (int p : new int[] {10, 11, LEAST, MOST}) {
+            due("none beyond the tenth", all10.punched(p, 0), UNKNOWN);
+        }
     }
 
     private static void dueSlit(int width, int w0, int w1, int w2, int... all) {
@@ -607,6 +691,9 @@ public final class PromisesTest {
         due("the row stays", x.at(0, 63, 2), 7);
         due("a new row", x.sheet(0, 2, 64), 1);
         due("has 0", x.at(0, 63, 2), 0);
+        x.put(0, 0, 7);
+        x.sheet(0, 2, 1);
+        due("has 0 from the first on", x.at(0, 0, 2), 0);
         due("a row of none", x.sheet(0, 1, 0), 1);
         due("has no cell", x.put(0, 0, 1), INDEX);
         due("but is there", x.lose(0), 1);
