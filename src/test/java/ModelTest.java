@@ -288,6 +288,8 @@ public final class ModelTest {
         final int[] rules = new int[3];
         int trace, fault;
         int[] plan;
+        /** THE BEST PAIR that was asked for last, by its shapes and rules: it takes long to find. */
+        int[] bestKey, bestFound;
 
         boolean isShape(int s) {
             return s >= 0 && s < shapes.size();
@@ -511,6 +513,15 @@ public final class ModelTest {
             if (!in(what, 0, 3)) {
                 return OUTSIDE;
             }
+            int[] key = {a, b, rules[0], rules[1]};
+            if (!Arrays.equals(key, bestKey)) {
+                bestKey = key;
+                bestFound = bestPair(a, b);
+            }
+            return bestFound[what];
+        }
+
+        int[] bestPair(int a, int b) {
             int[] found = {0, 0, 0, Integer.MAX_VALUE};
             for (int t = 0; t < 8; t++) {
                 for (int dx = 0; dx < 16; dx++) {
@@ -522,7 +533,7 @@ public final class ModelTest {
                     }
                 }
             }
-            return found[what];
+            return found;
         }
 
         int punch(int kind, int s, int x, int y, int thick) {
