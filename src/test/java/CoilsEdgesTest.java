@@ -174,7 +174,6 @@ public final class CoilsEdgesTest extends Edges {
         due("its old lane", x.at(0, 1, 2), LOST);
         x.sheet(0, 0, 0);
         due("a row of none", x.put(0, 0, 1), INDEX);
-        x.put(0, 0, 1);
         due("is a row", x.lose(0), 1);
         due("of a sheet beside it", x.lose(1), 0);
     }
@@ -434,7 +433,7 @@ public final class CoilsEdgesTest extends Edges {
     }
 
     private static void numbers29() {
-        sentence(29, "1 NULL, 2 CAST, 3 INDEX, 4 SIZE .. it answers -10 less it; fault() tells it");
+        sentence(29, "it answers -10 less it .. fault() tells it");
         StripDies x = new StripDies();
         due("ahead of any", x.fault(), 0);
         due("shape, NULL", x.shape(0, 0, 0), -11);
@@ -534,7 +533,6 @@ public final class CoilsEdgesTest extends Edges {
     }
 
     private static void ranges30() {
-        sentence(30, "OUTSIDE");
         StripDies x = kinds(new int[] {1}, new int[] {3});
         x.rule(0, 3);
         x.rule(1, 2);

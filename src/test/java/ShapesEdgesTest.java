@@ -228,7 +228,7 @@ public final class ShapesEdgesTest extends Edges {
     }
 
     private static void turns3() {
-        sentence(3, "t's rest by 4 times (x, y) becomes (HEIGHT - 1 - y, x); of t above 3 each x becomes WIDTH - 1 - x ahead of that");
+        sentence(3, "t's rest by 4 times (x, y) becomes (HEIGHT - 1 - y, x) .. of t above 3 each x becomes WIDTH - 1 - x ahead of that");
         int[][][] all = {{{1}}, {{255}}, {{1, 1, 1, 1, 1, 1, 1, 1}}, {{1, 3}}, {{7, 1}}, {{0x8F, 1, 3}}, {{1, 2, 4, 9}},
             {{0x81, 2, 0, 0, 0, 0, 0, 4}}, {BLOCK}, {CHESS}};
         for (int[][] one : all) {
