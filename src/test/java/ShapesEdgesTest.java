@@ -463,6 +463,16 @@ public final class ShapesEdgesTest extends Edges {
 
     private static void apart8() {
         sentence(8, "APART, if for no cell of the one and no cell of the other both the differences of x and of y are w at most");
+        StripDies lowered = withShapes(CELL);
+        for (int w = 3; w >= 0; w--) {
+            lowered.rule(0, w);
+            for (int far = 1; far < 5; far++) {
+                int want = far <= w ? 1 : 0;
+                due("web down to " + w + ", over it by " + far, lowered.pair(0, 0, 0, 0, far, 0) == STATE ? 1 : 0, want);
+                due("web down to " + w + ", under it by " + far, lowered.pair(0, 0, 0, 0, -far, 0) == STATE ? 1 : 0, want);
+                due("web down to " + w + ", beside it by " + far, lowered.pair(0, 0, 0, far, 0, 0) == STATE ? 1 : 0, want);
+            }
+        }
         for (int w = 0; w < 4; w++) {
             StripDies x = withShapes(CELL, BLOCK);
             x.rule(0, w);
